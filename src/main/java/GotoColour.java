@@ -217,6 +217,7 @@ public final class GotoColour {
 
     // Each pass takes in at least the lists that are one instruction longer, and a list that goes
     // through no instruction twice has at most count of them, so count passes find every list.
+    // It begins with empty sets: what an earlier program left in a loop would keep itself up.
     private void findLiveSets() {
         for (int i = 0; i < count; i++) {
             liveSets[i] = 0;
@@ -266,11 +267,11 @@ public final class GotoColour {
     }
 
     private int liveAtWays(int target, int ways) {
-        int live = 0;
+        int found = 0;
         for (int way = 0; way < ways; way++) {
-            live |= liveSetAt(target + way);
+            found |= liveSetAt(target + way);
         }
-        return live;
+        return found;
     }
 
     private int liveSetAt(int i) {

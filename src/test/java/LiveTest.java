@@ -189,6 +189,10 @@ public final class LiveTest {
         Due.is("live(0) before PRINT 4", x.live(0), 16);
         x.retract();
         Due.is("live(0) with PRINT 4 taken away", x.live(0), 0);
+        x.emit(GotoColour.PRINT, 4, 0, 0);
+        Due.is("live(0) with PRINT 4 back", x.live(0), 16);
+        // A loop keeps up what an earlier answer has left in it, unless each answer is found anew.
+        x.retract();
         x.emit(GotoColour.GOTO, 0, 0, 0);
         Due.is("live(0) with a loop in its place", x.live(0), 0);
         Due.is("live(1) with a loop in its place", x.live(1), 0);
