@@ -1,14 +1,20 @@
 /** Counts and prints the answers that are not the ones that are due. */
 final class Due {
+    private static String sentence = "";
     private static int wrong = 0;
 
     private Due() {
     }
 
+    /** The words of the document that the answers from here on are looked at for. */
+    static void sentence(String words) {
+        sentence = "[" + words + "] ";
+    }
+
     static void is(String call, long got, long want) {
         if (got != want) {
             wrong++;
-            System.out.println(call + " answered " + got + ", due is " + want);
+            System.out.println(sentence + call + " answered " + got + ", due is " + want);
         }
     }
 

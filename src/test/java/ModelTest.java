@@ -22,56 +22,45 @@ public final class ModelTest {
         GotoColour x = new GotoColour();
         Model model = new Model();
         int wildness = random.nextInt(3);
-        for (int call = 0; call < CALLS; call++) {
-            String at = "object " + object + ", call " + call + ": ";
-            switch (random.nextInt(12)) {
-                case 0: case 1: case 2: {
-                    int op = number(random, wildness, 11);
-                    int a = number(random, wildness, op == GotoColour.GOTO ? 32 : 8);
-                    int b = number(random, wildness, op == GotoColour.IFGOTO || op == GotoColour.SWITCH ? 32 : 8);
-                    int c = number(random, wildness, op == GotoColour.SWITCH ? 5 : 8);
-                    Due.is(at + "emit(" + op + ", " + a + ", " + b + ", " + c + ")",
-                            x.emit(op, a, b, c), model.emit(op, a, b, c));
-                    break;
-                }
-                case 3:
-                    // Fewer than the emits, so that programs grow full.
-                    if (random.nextInt(2) == 0) {
-                        Due.is(at + "retract()", x.retract(), model.retract());
-                    }
-                    break;
-                case 4: {
-                    int v = number(random, wildness, 8);
-                    int value = random.nextInt(4) == 0 ? random.nextInt() : random.nextInt(8) - 2;
-                    Due.is(at + "start(" + v + ", " + value + ")", x.start(v, value), model.start(v, value));
-                    break;
-                }
-                case 5: case 6: {
-                    int fuel = random.nextInt(3) == 0 ? random.nextInt(40) : random.nextInt(300) - 10;
-                    Due.is(at + "run(" + fuel + ")", x.run(fuel), model.run(fuel));
-                    break;
-                }
-                case 7:
-                    Due.is(at + "executed()", x.executed(), model.executed);
-                    Due.is(at + "printed()", x.printed(), model.output.size());
-                    break;
-                case 8: case 9: {
-                    int k = random.nextInt(40) - 3;
-                    Due.is(at + "output(" + k + ")", x.output(k), model.output(k));
-                    break;
-                }
-                case 10: {
-                    int i = random.nextInt(36) - 2;
-                    Due.is(at + "live(" + i + ")", x.live(i), model.live(i));
-                    break;
-                }
-                default: {
-                    int u = random.nextInt(10) - 1;
-                    int v = random.nextInt(10) - 1;
-                    Due.is(at + "meet(" + u + ", " + v + ")", x.meet(u, v), model.meet(u, v));
-                    break;
-                }
-            }
+        // Not one call more than CALLS: what later ones answer is free.
+        for (int call = 1; call <= CALLS; call++) {
+            compareCall("object " + object + ", call " + call + ": ", x, model, random, wildness);
+        }
+    }
+
+    private static void compareCall(String at, GotoColour x, Model model, Random random, int wildness) {
+        // Of 25: fewer retracts than emits, so that programs grow full.
+        int kind = random.nextInt(25);
+        if (kind < 6) {
+            int op = number(random, wildness, 11);
+            int a = number(random, wildness, op == GotoColour.GOTO ? 32 : 8);
+            int b = number(random, wildness, op == GotoColour.IFGOTO || op == GotoColour.SWITCH ? 32 : 8);
+            int c = number(random, wildness, op == GotoColour.SWITCH ? 5 : 8);
+            Due.is(at + "emit(" + op + ", " + a + ", " + b + ", " + c + ")",
+                    x.emit(op, a, b, c), model.emit(op, a, b, c));
+        } else if (kind < 7) {
+            Due.is(at + "retract()", x.retract(), model.retract());
+        } else if (kind < 9) {
+            int v = number(random, wildness, 8);
+            int value = random.nextInt(4) == 0 ? random.nextInt() : random.nextInt(8) - 2;
+            Due.is(at + "start(" + v + ", " + value + ")", x.start(v, value), model.start(v, value));
+        } else if (kind < 13) {
+            int fuel = random.nextInt(3) == 0 ? random.nextInt(40) : number(random, wildness, 260);
+            Due.is(at + "run(" + fuel + ")", x.run(fuel), model.run(fuel));
+        } else if (kind < 15) {
+            Due.is(at + "executed()", x.executed(), model.executed);
+        } else if (kind < 17) {
+            Due.is(at + "printed()", x.printed(), model.output.size());
+        } else if (kind < 21) {
+            int k = number(random, wildness, 36);
+            Due.is(at + "output(" + k + ")", x.output(k), model.output(k));
+        } else if (kind < 23) {
+            int i = number(random, wildness, 34);
+            Due.is(at + "live(" + i + ")", x.live(i), model.live(i));
+        } else {
+            int u = number(random, wildness, 8);
+            int v = number(random, wildness, 8);
+            Due.is(at + "meet(" + u + ", " + v + ")", x.meet(u, v), model.meet(u, v));
         }
     }
 
