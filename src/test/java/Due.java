@@ -6,6 +6,19 @@ final class Due {
     private Due() {
     }
 
+    /** Runs each test, whatever the ones before it did: one that throws must not hide the others. */
+    static void tests(Runnable... tests) {
+        for (Runnable test : tests) {
+            try {
+                test.run();
+            } catch (RuntimeException thrown) {
+                wrong++;
+                System.out.println(sentence + "a call threw " + thrown);
+            }
+        }
+        end();
+    }
+
     /** The words of the document that the answers from here on are looked at for. */
     static void sentence(String words) {
         sentence = "[" + words + "] ";

@@ -4,25 +4,25 @@ public final class InstructionTest {
     private static final int HIGH = Integer.MAX_VALUE;
 
     public static void main(String[] args) {
-        eightVariables();
-        arithmeticWraps();
-        arithmeticOnManyNumbers();
-        lessIsSigned();
-        setTakesAnyNumber();
-        moveCopies();
-        aMayBeReadByItsOwnInstruction();
-        printAddsToTheEnd();
-        numberedFromNought();
-        gotoIsNext();
-        ifgotoOnNotNought();
-        switchOnItsWays();
-        switchOutsideItsWays();
-        stopEnds();
-        nextNumberIsNext();
-        noInstructionAfterTheLast();
-        noInstructionAtATarget();
-        noInstructionAtAWay();
-        Due.end();
+        Due.tests(
+                InstructionTest::eightVariables,
+                InstructionTest::arithmeticWraps,
+                InstructionTest::arithmeticOnManyNumbers,
+                InstructionTest::lessIsSigned,
+                InstructionTest::setTakesAnyNumber,
+                InstructionTest::moveCopies,
+                InstructionTest::aMayBeReadByItsOwnInstruction,
+                InstructionTest::printAddsToTheEnd,
+                InstructionTest::numberedFromNought,
+                InstructionTest::gotoIsNext,
+                InstructionTest::ifgotoOnNotNought,
+                InstructionTest::switchOnItsWays,
+                InstructionTest::switchOutsideItsWays,
+                InstructionTest::stopEnds,
+                InstructionTest::nextNumberIsNext,
+                InstructionTest::noInstructionAfterTheLast,
+                InstructionTest::noInstructionAtATarget,
+                InstructionTest::noInstructionAtAWay);
     }
 
     private static void eightVariables() {

@@ -4,29 +4,29 @@ public final class LiveTest {
     private static final int HIGH = Integer.MAX_VALUE;
 
     public static void main(String[] args) {
-        whatIsRead();
-        whatIsWritten();
-        theListOfOne();
-        theLastOneMayWrite();
-        noneBeforeTheLastWrites();
-        stopHasNoneAfterIt();
-        theEndHasNoneAfterIt();
-        gotoHasOneAfterIt();
-        bothWaysOfIfgoto();
-        allWaysOfSwitch();
-        waysOfSwitchPastTheEnd();
-        throughALoop();
-        theLongestList();
-        valuesPlayNoPart();
-        liveIsASet();
-        liveOfNoSuchInstruction();
-        liveFollowsTheProgram();
-        meetIsAtOneInstruction();
-        meetIsAtAnyInstruction();
-        meetOfOneVariable();
-        meetOfAnEmptyProgram();
-        meetOutside();
-        Due.end();
+        Due.tests(
+                LiveTest::whatIsRead,
+                LiveTest::whatIsWritten,
+                LiveTest::theListOfOne,
+                LiveTest::theLastOneMayWrite,
+                LiveTest::noneBeforeTheLastWrites,
+                LiveTest::stopHasNoneAfterIt,
+                LiveTest::theEndHasNoneAfterIt,
+                LiveTest::gotoHasOneAfterIt,
+                LiveTest::bothWaysOfIfgoto,
+                LiveTest::allWaysOfSwitch,
+                LiveTest::waysOfSwitchPastTheEnd,
+                LiveTest::throughALoop,
+                LiveTest::theLongestList,
+                LiveTest::valuesPlayNoPart,
+                LiveTest::liveIsASet,
+                LiveTest::liveOfNoSuchInstruction,
+                LiveTest::liveFollowsTheProgram,
+                LiveTest::meetIsAtOneInstruction,
+                LiveTest::meetIsAtAnyInstruction,
+                LiveTest::meetOfOneVariable,
+                LiveTest::meetOfAnEmptyProgram,
+                LiveTest::meetOutside);
     }
 
     private static int liveOfOne(int op, int a, int b, int c) {

@@ -15,32 +15,32 @@ public final class ProgramTest {
         {GotoColour.SWITCH, 0, 0, 0}, {GotoColour.SWITCH, 0, 0, 5}, {GotoColour.SWITCH, 8, 32, 5}};
 
     public static void main(String[] args) {
-        newHasNoInstructions();
-        newHasStartValuesNought();
-        newHasEmptyOutput();
-        objectsAreApart();
-        emitAddsAtTheEnd();
-        emitAnswersTheNewNumber();
-        emitIntoThirtyTwo();
-        emitIntoThirtyOne();
-        emitOfAnOpOutside();
-        emitOfAOutside();
-        emitOfBOutside();
-        emitOfCOutside();
-        emitOfAGotosTargetOutside();
-        emitOfOtherTargetsOutside();
-        emitOfWaysOutside();
-        emitOfNumbersNotHad();
-        emitOfSetsNumber();
-        emitRefusedChangesNothing();
-        retractTakesTheLast();
-        retractAnswersTheNewNumber();
-        retractOfNone();
-        retractLeavesTheRest();
-        startSets();
-        startOutside();
-        startIsForLaterRuns();
-        Due.end();
+        Due.tests(
+                ProgramTest::newHasNoInstructions,
+                ProgramTest::newHasStartValuesNought,
+                ProgramTest::newHasEmptyOutput,
+                ProgramTest::objectsAreApart,
+                ProgramTest::emitAddsAtTheEnd,
+                ProgramTest::emitAnswersTheNewNumber,
+                ProgramTest::emitIntoThirtyTwo,
+                ProgramTest::emitIntoThirtyOne,
+                ProgramTest::emitOfAnOpOutside,
+                ProgramTest::emitOfAOutside,
+                ProgramTest::emitOfBOutside,
+                ProgramTest::emitOfCOutside,
+                ProgramTest::emitOfAGotosTargetOutside,
+                ProgramTest::emitOfOtherTargetsOutside,
+                ProgramTest::emitOfWaysOutside,
+                ProgramTest::emitOfNumbersNotHad,
+                ProgramTest::emitOfSetsNumber,
+                ProgramTest::emitRefusedChangesNothing,
+                ProgramTest::retractTakesTheLast,
+                ProgramTest::retractAnswersTheNewNumber,
+                ProgramTest::retractOfNone,
+                ProgramTest::retractLeavesTheRest,
+                ProgramTest::startSets,
+                ProgramTest::startOutside,
+                ProgramTest::startIsForLaterRuns);
     }
 
     private static String told(int[] e) {

@@ -4,30 +4,29 @@ public final class RunTest {
     private static final int HIGH = Integer.MAX_VALUE;
 
     public static void main(String[] args) {
-        runBeginsWithStartValues();
-        runBeginsWithEmptyOutput();
-        runBeginsAtNought();
-        fuelTooSmall();
-        fuelInside();
-        fuelTooLarge();
-        fuelThatDoesNotSuffice();
-        fuelThatJustSuffices();
-        fuelThatJustLeadsPastTheEnd();
-        emptyProgramEnds();
-        stopCounts();
-        executedOfTheLatestRun();
-        executedBeforeAny();
-        printedOfTheLatestRun();
-        printedBeforeAny();
-        printedGoesOnPastThirtyTwo();
-        outputFromNought();
-        outputKeepsThirtyTwo();
-        outputBelowNought();
-        outputFromPrintedOn();
-        outputOfAShorterRun();
-        outputOfThirtyTwoOrMore();
-        askingChangesNothing();
-        Due.end();
+        Due.tests(
+                RunTest::runBeginsWithStartValues,
+                RunTest::runBeginsWithEmptyOutput,
+                RunTest::runBeginsAtNought,
+                RunTest::fuelTooSmall,
+                RunTest::fuelInside,
+                RunTest::fuelTooLarge,
+                RunTest::fuelThatDoesNotSuffice,
+                RunTest::fuelThatJustSuffices,
+                RunTest::fuelThatJustLeadsPastTheEnd,
+                RunTest::emptyProgramEnds,
+                RunTest::stopCounts,
+                RunTest::executedOfTheLatestRun,
+                RunTest::executedBeforeAny,
+                RunTest::printedOfTheLatestRun,
+                RunTest::printedBeforeAny,
+                RunTest::printedGoesOnPastThirtyTwo,
+                RunTest::outputFromNought,
+                RunTest::outputKeepsThirtyTwo,
+                RunTest::outputBelowNought,
+                RunTest::outputFromPrintedOn,
+                RunTest::outputOfThirtyTwoOrMore,
+                RunTest::askingChangesNothing);
     }
 
     private static void runBeginsWithStartValues() {
@@ -340,23 +339,14 @@ public final class RunTest {
         Due.sentence("Promise 8: 0 for k outside 0 .. printed() - 1, above");
         GotoColour x = counting();
         for (int values = 0; values <= 3; values++) {
-            x.run(3 * values);
-            int[] above = {values, values + 1, values + 2, 31, 32, 33, HIGH};
-            for (int k : above) {
-                Due.is("output(" + k + ") of " + values, x.output(k), 0);
-            }
-        }
-    }
-
-    private static void outputOfAShorterRun() {
-        Due.sentence("Promise 8: 0 for k outside 0 .. printed() - 1, after a longer run");
-        GotoColour x = counting();
-        for (int values = 4; values >= 0; values--) {
+            // What a longer run has left behind must not be answered.
             x.run(250);
             x.run(3 * values);
-            for (int k = 0; k < 33; k++) {
-                Due.is("output(" + k + ") of " + values, x.output(k), k < values ? k + 1 : 0);
+            for (int k = values; k < 34; k++) {
+                Due.is("output(" + k + ") of " + values, x.output(k), 0);
             }
+            Due.is("output(82) of " + values, x.output(82), 0);
+            Due.is("output(" + HIGH + ") of " + values, x.output(HIGH), 0);
         }
     }
 
